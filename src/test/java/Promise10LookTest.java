@@ -1,0 +1,117 @@
+/** Promise 10: look at where the program is, its size, and its latest instant. */
+public final class Promise10LookTest {
+    private static final Check CHECK = new Check();
+
+    public static void main(String[] args) {
+        where();
+        sizes();
+        unknown();
+        instants();
+        others();
+        CHECK.end();
+    }
+
+    private static void due(ReactWires x, int what, int answer) {
+        CHECK.same("look(" + what + ")", x.look(what), answer);
+    }
+
+    private static void where() {
+        ReactWires x = new ReactWires();
+        due(x, 0, 0);
+        CHECK.load(x, "1", 1);
+        due(x, 0, 1);
+        x.react(0);
+        due(x, 0, 2);
+        x.react(0);
+        due(x, 0, 3);
+        x.react(0);
+        due(x, 0, 3);
+        x.restart();
+        due(x, 0, 1);
+        CHECK.load(x, "?a(?e!e:0):0", 0);
+        x.react(1);
+        due(x, 0, 1);
+        x.react(0);
+        due(x, 0, 3);
+    }
+
+    private static void sizes() {
+        Object[][] rows = {
+            {"0", 1, 0}, {"(((0)))", 1, 0}, {"1;1", 3, 2}, {"1;1;1", 5, 3}, {"1|1|1", 5, 3}, {"{1}", 2, 1},
+            {"?a1:(0;!e)", 5, 1}, {"&a1", 2, 1}, {"\\s1", 2, 1}, {"*1", 3, 2}, {"**1", 7, 4},
+            {"*{1;^2}", 9, 2}, {"*(1;1)", 7, 4}, {"{*(1|^2)};0", 10, 2}, {"0;*(*1;0)", 13, 4},
+        };
+        for (Object[] row : rows) {
+            ReactWires x = CHECK.load((String) row[0], (Integer) row[2]);
+            due(x, 1, (Integer) row[1]);
+            due(x, 2, (Integer) row[2]);
+        }
+    }
+
+    private static void unknown() {
+        // K0 of the PRESENT; GO, K0 of both sides; the signals that they emit.
+        unknown("?e!f:!e", 0, 2, 7);
+        unknown("?e!e:0", 0, 2, 6);
+        // The SEQ's K0, the second EMIT's GO and K0, g, and the six of the PRESENT.
+        unknown("?e!e:0;!g", 0, 2, 10);
+        // A PAUSE has K1 for GO; the K1 of what lies around it.
+        unknown("?e!e:1", 0, 2, 7);
+        unknown("{?e!e:1}", 0, 2, 9);
+        // The wire of a LOCAL counts, but the second copy of a LOOP's UNIT is known here: its GO is 0.
+        unknown("\\s(?s!e:0;!s)", 0, 2, 11);
+        unknown("*(\\s(?s!s:0);1)", 0, 2, 11);
+        // Both GO of a PAR are known; its K0 hangs on the side that is UNKNOWN.
+        unknown("?e!e:0|0", 0, 2, 7);
+        // K0 and K2 of the side, but K3 alone of the PAR, which waits for that side.
+        unknown("{{^3|(?e!e:^2)}}", 0, 2, 10);
+        unknown("!e;1", 0, 0, 0);
+    }
+
+    private static void unknown(String text, int inputs, int answer, int wires) {
+        ReactWires x = new ReactWires();
+        for (int i = 0; i < text.length(); i++) {
+            x.type(text.charAt(i));
+        }
+        CHECK.same("load() of " + text, x.load() >= 0, true);
+        due(x, 3, 0);
+        CHECK.same("react(" + inputs + ") of " + text, x.react(inputs), answer);
+        CHECK.same("look(3) of " + text, x.look(3), wires);
+        x.states();
+        x.restart();
+        CHECK.same("look(3) after restart() of " + text, x.look(3), wires);
+    }
+
+    private static void instants() {
+        ReactWires x = CHECK.load("*(?a(?e!e:0):!f;1)", 2);
+        due(x, 4, 0);
+        x.react(1);
+        due(x, 4, 0);
+        for (int i = 1; i <= 5; i++) {
+            x.react(0);
+            due(x, 4, i);
+            x.react(1);
+            x.react(16);
+            due(x, 4, i);
+        }
+        x.states();
+        due(x, 4, 5);
+        x.restart();
+        due(x, 4, 0);
+        x.react(0);
+        due(x, 4, 1);
+        CHECK.load(x, "0", 0);
+        due(x, 4, 0);
+        x.react(0);
+        due(x, 4, 1);
+        x.react(0);
+        due(x, 4, 1);
+    }
+
+    private static void others() {
+        int[] wrong = {-1, 5, 6, 100, Integer.MAX_VALUE, Integer.MIN_VALUE};
+        for (int what : wrong) {
+            due(new ReactWires(), what, -1);
+            due(CHECK.load("1", 1), what, -1);
+        }
+    }
+}
