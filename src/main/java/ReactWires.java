@@ -478,7 +478,10 @@ public final class ReactWires {
         private static final int UNKNOWN = 0;
         /** An input is 1 in the lanes whose number has its bit. */
         private static final int[] INPUT_WIRES = {0x5555AAAA, 0x3333CCCC, 0x0F0FF0F0, 0x00FFFF00};
-        /** A sweep that is not the last one makes some wire known in a lane; there are fewer wires. */
+        /**
+         * Lanes have nothing to do with one another, and one in which a sweep finds nothing new is done:
+         * there can't be more sweeps than wires, and there are fewer of these.
+         */
         private static final int MOST_SWEEPS = 2000;
 
         private final int[] kind = new int[MOST_THINGS];
@@ -531,17 +534,22 @@ public final class ReactWires {
             count++;
             kind[thing] = tree.kind[node];
             around[thing] = outer;
-            steps[stepCount] = thing;
-            stepCount++;
+            addStep(thing);
             if (kind[thing] == LOCAL) {
                 layLocal(tree, node, thing);
             } else {
                 mark[thing] = newMark(tree, node);
                 layInside(tree, node, thing);
             }
-            steps[stepCount] = ~thing;
-            stepCount++;
+            addStep(~thing);
             return thing;
+        }
+
+        private void addStep(int step) {
+            if (stepCount < steps.length) {
+                steps[stepCount] = step;
+                stepCount++;
+            }
         }
 
         private void layLocal(Tree tree, int node, int thing) {
@@ -667,7 +675,7 @@ public final class ReactWires {
             }
         }
 
-        private int signalOf(int thing) {
+        private int signalWire(int thing) {
             int signal = mark[thing];
             return signal < 0 || signal >= signals.length ? ZERO : signals[signal];
         }
@@ -675,7 +683,7 @@ public final class ReactWires {
         private int goInside(int outer, boolean isFirst) {
             switch (kind[outer]) {
                 case PRESENT:
-                    return and(go[outer], isFirst ? signalOf(outer) : not(signalOf(outer)));
+                    return and(go[outer], isFirst ? signalWire(outer) : not(signalWire(outer)));
                 case SEQ:
                     return isFirst ? go[outer] : end(first[outer], 0);
                 case LOOP:
@@ -689,7 +697,7 @@ public final class ReactWires {
             if (kind[outer] != SUSPEND) {
                 return res[outer];
             }
-            return and(and(res[outer], sel[outer]), not(signalOf(outer)));
+            return and(and(res[outer], sel[outer]), not(signalWire(outer)));
         }
 
         private int suspInside(int outer) {
@@ -697,12 +705,30 @@ public final class ReactWires {
         }
 
         private int heldBack(int suspend) {
-            return and(and(res[suspend], sel[suspend]), signalOf(suspend));
+            return and(and(res[suspend], sel[suspend]), signalWire(suspend));
         }
 
         private void leave(int thing) {
+            if (kind[thing] == PAR) {
+                leavePar(thing);
+                return;
+            }
             for (int code = 0; code < CODES; code++) {
                 put(ends, thing * CODES + code, endOf(thing, code));
+            }
+        }
+
+        /** A side that is dead does not hold the other one up. */
+        private void leavePar(int par) {
+            int left = first[par];
+            int right = second[par];
+            int leftUpTo = and(not(selOf(left)), selOf(right));
+            int rightUpTo = and(not(selOf(right)), selOf(left));
+            for (int code = 0; code < CODES; code++) {
+                leftUpTo = or(leftUpTo, end(left, code));
+                rightUpTo = or(rightUpTo, end(right, code));
+                int both = and(leftUpTo, rightUpTo);
+                put(ends, par * CODES + code, and(both, endOfEither(par, code)));
             }
         }
 
@@ -724,8 +750,6 @@ public final class ReactWires {
                     return code == 0 ? ZERO : endOfEither(thing, code);
                 case TRAP:
                     return endOfTrap(thing, code);
-                case PAR:
-                    return endOfPar(thing, code);
                 default:
                     return onlyFor(0, code, go[thing]);
             }
@@ -747,22 +771,6 @@ public final class ReactWires {
                 return end(first[trap], 1);
             }
             return code + 1 < CODES ? end(first[trap], code + 1) : ZERO;
-        }
-
-        private int endOfPar(int par, int code) {
-            int left = first[par];
-            int right = second[par];
-            int both = and(endUpTo(left, right, code), endUpTo(right, left, code));
-            return and(both, endOfEither(par, code));
-        }
-
-        /** A side that is dead does not hold the other one up. */
-        private int endUpTo(int side, int otherSide, int code) {
-            int wire = and(not(selOf(side)), selOf(otherSide));
-            for (int lower = 0; lower <= code; lower++) {
-                wire = or(wire, end(side, lower));
-            }
-            return wire;
         }
 
         private int end(int thing, int code) {
@@ -896,9 +904,19 @@ public final class ReactWires {
         }
 
         int lookThrough(Wires wires) {
-            if (answer == NOT_YET) {
-                answer = searchAll(wires) ? count : TOO_MANY;
+            if (answer != NOT_YET) {
+                return answer;
             }
+            begin();
+            boolean fits = true;
+            for (int state = 0; fits && state < count && state < MOST_STATES; state++) {
+                wires.runInstant(reached, state * WORDS, state > 0);
+                int decided = ~wires.undecidedLanes() & Wires.LANES;
+                int ending = wires.endedLanes() & decided;
+                addToTallies(wires, decided, ending);
+                fits = reachFrom(wires, decided & ~ending);
+            }
+            answer = fits ? count : TOO_MANY;
             return answer;
         }
 
@@ -918,22 +936,12 @@ public final class ReactWires {
             }
         }
 
-        private boolean searchAll(Wires wires) {
+        private void begin() {
             Arrays.fill(reached, 0);
             count = 1;
             undecidedPairs = 0;
             endingPairs = 0;
             givenOutputs = 0;
-            for (int state = 0; state < count && state < MOST_STATES; state++) {
-                wires.runInstant(reached, state * WORDS, state > 0);
-                int decided = ~wires.undecidedLanes() & Wires.LANES;
-                int ending = wires.endedLanes() & decided;
-                addToTallies(wires, decided, ending);
-                if (!reachFrom(wires, decided & ~ending)) {
-                    return false;
-                }
-            }
-            return true;
         }
 
         private void addToTallies(Wires wires, int decided, int ending) {

@@ -41,7 +41,8 @@ public final class Promise04LoadTest {
         due(1, "(".repeat(11) + "1;0|0" + ")".repeat(11), "&a".repeat(11) + "1", "\\s".repeat(11) + "1");
         due(-1, "(".repeat(12) + "1" + ")".repeat(12), "{".repeat(12) + "1" + "}".repeat(12));
         due(-1, "&a".repeat(12) + "1", "\\s".repeat(12) + "1", "*".repeat(12) + "1", "?a0:".repeat(12) + "1");
-        due(1, "?a0:".repeat(11) + "1");
+        due(1, "?a0:".repeat(11) + "1", "?a".repeat(11) + "1" + ":0".repeat(11));
+        due(-1, "?a".repeat(12) + "1" + ":0".repeat(12));
         due(-4, "*".repeat(11) + "1");
         // Units beside one another do not lie inside one another.
         due(2, "(".repeat(11) + "1" + ")".repeat(11) + ";" + "(".repeat(11) + "1" + ")".repeat(11));
@@ -56,7 +57,7 @@ public final class Promise04LoadTest {
     private static void safety() {
         due(-3, "*0", "*!e", "*(0|0;0)", "*?a1:0", "*{1|^2}", "*{^2}", "*{0|^2}");
         due(-3, "*(?a1:0;0)", "*\\s!s", "*&a0", "1;*0", "*(1;*0)", "*(*0;1)", "{*{{^2}|0}}", "*{{^2}}", "{*{^2|^2}}");
-        due(-3, "{*?a^2:0}", "*{0|{^2}}", "*{{^2|^2};?a^2:1}");
+        due(-3, "{*?a^2:0}", "*{0|{^2}}", "*{*^2}", "*{*(!e;^2)}", "*{{^2|^2};?a^2:1}");
         // The greater code of the sides counts: beside an exit of the outer trap the inner one is not taken.
         due(0, "{*{^3}}", "{*{^3|^2}}", "{*{^2|^3}}", "{*^2}", "{*(!e;^2)}");
         due(0, "{{*{^4|^3|^2}}}");

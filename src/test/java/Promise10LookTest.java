@@ -65,6 +65,11 @@ public final class Promise10LookTest {
         // K0 and K2 of the side, but K3 alone of the PAR, which waits for that side.
         unknown("{{^3|(?e!e:^2)}}", 0, 2, 10);
         unknown("!e;1", 0, 0, 0);
+        // K1 of a SUSPEND that is not SELected is known, though its signal is not.
+        ReactWires x = CHECK.load("1;?e!e:0|&e0", 1);
+        CHECK.same("react(0)", x.react(0), 0);
+        CHECK.same("react(0)", x.react(0), 2);
+        due(x, 3, 8);
     }
 
     private static void unknown(String text, int inputs, int answer, int wires) {

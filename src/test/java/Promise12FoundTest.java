@@ -9,6 +9,7 @@ public final class Promise12FoundTest {
         tallies("*(!h;1)", 3, 0, 0, 8);
         tallies("1;?a(?e!e:0):!g", 2, 8, 8, 4);
         tallies("?a0:(?b!e:1)", 2, 0, 8 + 4 + 16, 1);
+        tallies("?a(?e!e:0):1;1", 3, 8, 16, 0);
         // What an UNDECIDED pair gives does not count, what an ending one gives does.
         tallies("?a(!h|(?e!e:0)):!f", 1, 8, 8, 2);
         // A state that is not reached has no pairs.
