@@ -10,15 +10,15 @@ public final class Promise04LoadTest {
         safety();
         size();
         firstRefusal();
+        numberOfRegisters();
+        lineIsEmptyThen();
         refusedChangesNothing();
         takenStartsAnew();
         CHECK.end();
     }
 
     private static void due(int answer, String... texts) {
-        for (String text : texts) {
-            CHECK.load(text, answer);
-        }
+        CHECK.loads(answer, texts);
     }
 
     private static void taken() {
@@ -81,10 +81,51 @@ public final class Promise04LoadTest {
         due(32, "*****1");
     }
 
+    /** Each two of the four at once, in both orders of the text, and all of them. */
     private static void firstRefusal() {
-        due(-1, "!s;*0;", "^2;(", "*0;");
-        due(-2, "*0;!s", "^2;*0", "******0;!s", "!s;******1");
-        due(-3, "******1;*0", "*0;******1", "******0");
+        CHECK.sentence("Refused, with the first of these");
+        String tooDeep = "(".repeat(12) + "0" + ")".repeat(12);
+        due(-1, "!s;", "^2;(", "*0;", "******1;", ";!s", ";*0", ";******1", "!s;*0;******1;");
+        due(-1, "!s;" + tooDeep, tooDeep + ";!s", "*0;" + tooDeep, tooDeep + ";*0", "******1;" + tooDeep, tooDeep + "|******1");
+        due(-1, "(".repeat(12) + "!s" + ")".repeat(12), "{".repeat(12) + "*0" + "}".repeat(12), "*".repeat(12) + "0");
+        due(-2, "*0;!s", "!s;*0", "^2;*0", "*0;^2", "*!s", "*^2", "*(0;^2)", "******0;!s");
+        due(-2, "!s;******1", "******1;!s", "******^2", "^2|******1", "******1;*0;!s", "!s;*0;******1");
+        due(-3, "******1;*0", "*0;******1", "******0", "*0|******1", "******(0|!e)");
+        due(-4, "******1", "******1;0");
+    }
+
+    private static void numberOfRegisters() {
+        CHECK.sentence("the number of its registers");
+        due(0, "0", "!e", "{^2}", "{*^2}");
+        due(1, "1", "{1}", "?a1:0");
+        due(31, "1;" + "1;".repeat(4) + "*1|*1|*1|*1|*1|*1|*1|*1|*1|*1|*1|*1|*1");
+        due(32, "*****1", "**(1;1;1;1;1;1;1;1)");
+        due(33, "*****1;1", "1|*****1");
+        due(60, "*****1;****1;***1;**1", "{*****1;****1;***1;**1}");
+        CHECK.sentence("-1 it is no SEQ");
+        due(-1, "");
+    }
+
+    private static void lineIsEmptyThen() {
+        CHECK.sentence("The line becomes the program, at its beginning, and the line is empty");
+        ReactWires x = CHECK.load("1", 1);
+        CHECK.same("look(0)", x.look(0), 1);
+        CHECK.same("load() of the line that a load made empty", x.load(), -1);
+        CHECK.same("look(0)", x.look(0), 1);
+        CHECK.room(x, 60);
+        x = CHECK.load("0;".repeat(29) + "!e", 0);
+        CHECK.room(x, 60);
+        CHECK.instant(x, 0, 1, 1, 0);
+        // From under way and from its end a load leads to the beginning of the new one.
+        x = CHECK.load("1;1", 2);
+        x.react(0);
+        CHECK.load(x, "!f;1", 1);
+        CHECK.same("look(0)", x.look(0), 1);
+        CHECK.instant(x, 0, 0, 2, 0);
+        CHECK.instant(x, 0, 1, 0, 0);
+        CHECK.load(x, "!g;1", 1);
+        CHECK.same("look(0)", x.look(0), 1);
+        CHECK.instant(x, 0, 0, 4, 0);
     }
 
     private static void refusedChangesNothing() {

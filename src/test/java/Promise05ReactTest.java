@@ -32,7 +32,17 @@ public final class Promise05ReactTest {
     }
 
     private static void refusals() {
+        CHECK.sentence("-1 (refused) if there is no program, it has ended, or inputs are not 0 .. 15");
         CHECK.same("react(0) without a program", new ReactWires().react(0), -1);
+        for (int inputs = -40; inputs <= 40; inputs++) {
+            boolean isTaken = inputs >= 0 && inputs <= 15;
+            CHECK.same("react(" + inputs + ")", CHECK.load("1", 1).react(inputs), isTaken ? 0 : -1);
+            CHECK.same("react(" + inputs + ")", CHECK.load("0", 0).react(inputs), isTaken ? 1 : -1);
+            CHECK.same("react(" + inputs + ")", CHECK.load("?e!e:0", 0).react(inputs), isTaken ? 2 : -1);
+            ReactWires ended = CHECK.load("0", 0);
+            CHECK.same("react(0)", ended.react(0), 1);
+            CHECK.same("react(" + inputs + ") after the end", ended.react(inputs), -1);
+        }
         ReactWires x = CHECK.load("!e;1", 1);
         int[] wrong = {-1, 16, 17, 32, -16, Integer.MAX_VALUE, Integer.MIN_VALUE};
         for (int inputs : wrong) {
@@ -49,12 +59,14 @@ public final class Promise05ReactTest {
     }
 
     private static void sequencesAndPauses() {
+        CHECK.sentence("0 it goes on, 1 it has ended, 2 UNDECIDED");
         run("0", 0, row(0, 1, 0), row(0, -1, 0));
         run("!e;!f;1;!g", 1, row(0, 0, E | F), row(0, 1, G));
         run("1;!e;1;!f;!g;1;!h", 3, row(0, 0, 0), row(0, 0, E), row(0, 0, F | G), row(0, 1, H), row(0, -1, H));
     }
 
     private static void presents() {
+        CHECK.sentence("An instant with inputs (a 1, b 2, c 4, d 8)");
         for (int inputs = 0; inputs < 16; inputs++) {
             int due = 0;
             for (int i = 0; i < 4; i++) {

@@ -5,6 +5,9 @@ public final class Promise09RegistersTest {
     public static void main(String[] args) {
         order();
         parts();
+        partsThatAreNone();
+        withoutRegisters();
+        aroundTheFirstPart();
         ends();
         CHECK.end();
     }
@@ -64,6 +67,54 @@ public final class Promise09RegistersTest {
         x.react(0);
         due(x, 0, -1 << 29);
         due(x, 1, (1 << 26) - 1);
+    }
+
+    /** 32 * part must not wrap around: 1 << 27 times 32 is 0 as an int. */
+    private static void partsThatAreNone() {
+        CHECK.sentence("0 for a part that is none");
+        ReactWires x = CHECK.load("*****1|****1|***1|**1", 60);
+        CHECK.same("react(0)", x.react(0), 0);
+        due(x, 0, 1);
+        due(x, 1, 1 | 1 << 16 | 1 << 24);
+        int[] none = {-1, 2, 3, 4, 5, 31, 32, 64, -2, -31, -32, -33};
+        for (int part : none) {
+            due(x, part, 0);
+        }
+        for (int high = 1; high < 32; high++) {
+            int part = high << 27;
+            due(x, part, 0);
+            due(x, part + 1, 0);
+            due(x, part - 1, 0);
+        }
+        due(x, Integer.MAX_VALUE, 0);
+        due(x, Integer.MIN_VALUE, 0);
+        due(x, Integer.MIN_VALUE + 1, 0);
+    }
+
+    private static void withoutRegisters() {
+        CHECK.sentence("0 for a part that is none");
+        due(new ReactWires(), 0, 0);
+        ReactWires x = CHECK.load("0", 0);
+        due(x, 0, 0);
+        x.react(0);
+        due(x, 0, 0);
+    }
+
+    /** 31, 32 and 33 registers, the last of which is 1: below, at and behind the first part's highest bit. */
+    private static void aroundTheFirstPart() {
+        CHECK.sentence("of registers 32 * part to 32 * part + 31 the lowest bit first");
+        ReactWires x = CHECK.load("{****1|***1|**1|*1}|1", 31);
+        x.react(0);
+        due(x, 0, 1 | 1 << 16 | 1 << 24 | 1 << 28 | 1 << 30);
+        due(x, 1, 0);
+        x = CHECK.load("{****1|***1|**1|*1}|1|1", 32);
+        x.react(0);
+        due(x, 0, 1 | 1 << 16 | 1 << 24 | 1 << 28 | 1 << 30 | 1 << 31);
+        due(x, 1, 0);
+        x = CHECK.load("{****1|***1|**1|*1}|1|1|1", 33);
+        x.react(0);
+        due(x, 0, 1 | 1 << 16 | 1 << 24 | 1 << 28 | 1 << 30 | 1 << 31);
+        due(x, 1, 1);
     }
 
     private static void ends() {

@@ -16,6 +16,7 @@ public final class Promise10LookTest {
     }
 
     private static void where() {
+        CHECK.sentence("0 no program, 1 at its beginning, 2 under way, 3 ended (what = 0)");
         ReactWires x = new ReactWires();
         due(x, 0, 0);
         CHECK.load(x, "1", 1);
@@ -28,6 +29,12 @@ public final class Promise10LookTest {
         due(x, 0, 3);
         x.restart();
         due(x, 0, 1);
+        // Nothing but a load, a restart or an instant that is decided moves it.
+        CHECK.load(x, "1;", -1);
+        x.wipe();
+        x.react(16);
+        x.states();
+        due(x, 0, 1);
         CHECK.load(x, "?a(?e!e:0):0", 0);
         x.react(1);
         due(x, 0, 1);
@@ -36,6 +43,7 @@ public final class Promise10LookTest {
     }
 
     private static void sizes() {
+        CHECK.sentence("the things that are laid out (1); the registers (2)");
         Object[][] rows = {
             {"0", 1, 0}, {"(((0)))", 1, 0}, {"1;1", 3, 2}, {"1;1;1", 5, 3}, {"1|1|1", 5, 3}, {"{1}", 2, 1},
             {"?a1:(0;!e)", 5, 1}, {"&a1", 2, 1}, {"\\s1", 2, 1}, {"*1", 3, 2}, {"**1", 7, 4},
@@ -49,6 +57,7 @@ public final class Promise10LookTest {
     }
 
     private static void unknown() {
+        CHECK.sentence("the wires that were UNKNOWN in the latest instant, of those named at AN INSTANT (3)");
         // K0 of the PRESENT; GO, K0 of both sides; the signals that they emit.
         unknown("?e!f:!e", 0, 2, 7);
         unknown("?e!e:0", 0, 2, 6);
@@ -87,6 +96,7 @@ public final class Promise10LookTest {
     }
 
     private static void instants() {
+        CHECK.sentence("the instants that were decided since the beginning (4)");
         ReactWires x = CHECK.load("*(?a(?e!e:0):!f;1)", 2);
         due(x, 4, 0);
         x.react(1);
@@ -113,10 +123,16 @@ public final class Promise10LookTest {
     }
 
     private static void others() {
+        CHECK.sentence("-1 for another what");
         int[] wrong = {-1, 5, 6, 100, Integer.MAX_VALUE, Integer.MIN_VALUE};
         for (int what : wrong) {
             due(new ReactWires(), what, -1);
-            due(CHECK.load("1", 1), what, -1);
+            ReactWires x = CHECK.load("1", 1);
+            due(x, what, -1);
+            x.react(0);
+            due(x, what, -1);
+            x.react(0);
+            due(x, what, -1);
         }
     }
 }

@@ -5,6 +5,8 @@ public final class Promise11StatesTest {
     public static void main(String[] args) {
         counts();
         limit();
+        limitByALateState();
+        limitBySeveralWays();
         staysWhereItIs();
         CHECK.end();
     }
@@ -14,6 +16,7 @@ public final class Promise11StatesTest {
     }
 
     private static void counts() {
+        CHECK.sentence("Looks through the states that are reached: how many there are; -1 (refused) if there is no program");
         ReactWires x = new ReactWires();
         due(x, -1);
         CHECK.load(x, "1;", -1);
@@ -36,6 +39,8 @@ public final class Promise11StatesTest {
     }
 
     private static void limit() {
+        CHECK.sentence("-2 if there are more than 30");
+        due(CHECK.load("1" + ";1".repeat(27), 28), 29);
         due(CHECK.load("1" + ";1".repeat(28), 29), 30);
         ReactWires x = CHECK.load("1" + ";1".repeat(29), 30);
         due(x, -2);
@@ -51,7 +56,33 @@ public final class Promise11StatesTest {
         due(CHECK.load("&a(1;1)|&b(1;1)|&c(1;1)|&d(1;1)", 8), -2);
     }
 
+    /** The last state of all is reached from the last one but one, and with inputs 15 or 0 alone. */
+    private static void limitByALateState() {
+        CHECK.sentence("-2 if there are more than 30");
+        for (String last : new String[] {"?a?b?c?d1:0:0:0:0", "?a0:?b0:?c0:?d0:1"}) {
+            // The beginning, the first pauses, and 12 and one more in each copy of the LOOP.
+            String loop = "*(" + "1;".repeat(12) + last + ")";
+            due(CHECK.load("1;" + loop, 27), 28);
+            due(CHECK.load("1;1;1;" + loop, 29), 30);
+            due(CHECK.load("1;1;1;1;" + loop, 30), -2);
+            due(CHECK.load("{1;1;1;" + loop + "};1", 30), 30);
+        }
+    }
+
+    private static void limitBySeveralWays() {
+        CHECK.sentence("-2 if there are more than 30");
+        due(CHECK.load("?a1:0|?b1:0|?c1:0|?d1:0;1", 5), 17);
+        due(CHECK.load("?a1:0|?b1:0|?c1:0|?d1:0;1" + ";1".repeat(13), 18), 30);
+        due(CHECK.load("?a1:0|?b1:0|?c1:0|?d1:0;1" + ";1".repeat(14), 19), -2);
+        due(CHECK.load("&a1|&b1|&c1|&d1;1" + ";1".repeat(13), 18), 30);
+        due(CHECK.load("&a1|&b1|&c1|&d1;1" + ";1".repeat(14), 19), -2);
+        // An end takes no place beside the thirty, and an instant that is UNDECIDED none either.
+        due(CHECK.load("?a1:0|?b1:0|?c1:0|?d1:0;1" + ";1".repeat(13) + ";!e", 18), 30);
+        due(CHECK.load("?a1:0|?b1:0|?c1:0|?d1:0;1" + ";1".repeat(12) + ";1;?e!e:0", 18), 30);
+    }
+
     private static void staysWhereItIs() {
+        CHECK.sentence("The program stays where it is");
         ReactWires x = CHECK.load("!e;1;!f;?a(?g!g:0):1;!h", 2);
         due(x, 3);
         CHECK.same("look(0)", x.look(0), 1);
