@@ -78,6 +78,9 @@ public final class ModelTest {
 
     private String anyText() {
         StringBuilder text = new StringBuilder();
+        if (random.nextInt(8) == 0) {
+            return chains(text);
+        }
         int wanted = random.nextInt(10) == 0 ? random.nextInt(8) : 8 + random.nextInt(53);
         String inSight = random.nextInt(8) == 0 ? "stz" : "";
         seq(text, wanted, random.nextInt(12) == 0 ? 4 : 0, inSight, 1);
@@ -87,6 +90,24 @@ public final class ModelTest {
         }
         if (text.length() > 61) {
             text.setLength(61);
+        }
+        return text.toString();
+    }
+
+    /** Chains of PAUSEs beside one another, some of them held back: programs of about thirty states. */
+    private String chains(StringBuilder text) {
+        int sides = 1 + random.nextInt(3);
+        for (int side = 0; side < sides; side++) {
+            text.append(side > 0 ? "|" : "").append(random.nextBoolean() ? "&" + anySignal("") : "");
+            text.append(random.nextInt(4) == 0 ? "*(1" : "(1");
+            int more = random.nextInt(sides == 1 ? 27 : 6);
+            for (int i = 0; i < more; i++) {
+                text.append(random.nextInt(8) == 0 ? ";?a1:1" : ";1");
+            }
+            text.append(')');
+        }
+        if (text.length() > 60) {
+            text.setLength(60);
         }
         return text.toString();
     }

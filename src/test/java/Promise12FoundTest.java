@@ -119,8 +119,15 @@ public final class Promise12FoundTest {
         CHECK.load(x, "?f!f:0|1" + ";1".repeat(26), 27);
         CHECK.same("states()", x.states(), 1);
         due(x, 16, 0, 0);
+        CHECK.load(x, "1", 1);
+        due(x, 0, 0, 0);
+        CHECK.same("states()", x.states(), 2);
+        due(x, 0, 16, 0);
         CHECK.load(x, "1" + ";1".repeat(29), 30);
         CHECK.same("states()", x.states(), -2);
         due(x, 0, 0, 0);
+        CHECK.load(x, "*(!g;1)", 2);
+        CHECK.same("states()", x.states(), 3);
+        due(x, 0, 0, 4);
     }
 }

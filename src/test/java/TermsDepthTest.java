@@ -75,6 +75,8 @@ public final class TermsDepthTest {
 
     private static void farTooDeep() {
         CHECK.loads(-1, around("(", 29, "1", ")"), around("{", 29, "1", "}"), "(".repeat(60), "{".repeat(60));
+        // Nothing at all where the thirteenth would stand.
+        CHECK.loads(-1, around("(", 12, "", ")"), around("{", 12, "", "}"), "&a".repeat(12), "\\s".repeat(12), "*".repeat(12));
         CHECK.loads(-1, "*".repeat(59) + "1", "&a".repeat(29) + "1", "\\s".repeat(29) + "1", "?a".repeat(30), "*".repeat(60));
     }
 }

@@ -4,6 +4,7 @@ public final class TermsInstantTest {
 
     public static void main(String[] args) {
         firstInstant();
+        allUnknownFirst();
         withoutGuessing();
         undecidedByALocalAlone();
         undecidedForSomeInputs();
@@ -31,6 +32,24 @@ public final class TermsInstantTest {
         CHECK.instant(x, 0, 0, 1, 0);
         CHECK.same("look(0)", x.look(0), 2);
         CHECK.instant(x, 1, 1, 4, 0);
+    }
+
+    private static void allUnknownFirst() {
+        CHECK.sentence("all wires are UNKNOWN but those of the inputs");
+        // Were the LOOP's wires taken for 1 at first, e would keep itself up.
+        CHECK.instant(CHECK.load("(1;*(!e;1))|?e!e:0", 3), 0, 2, 0, 1);
+        // Neither does anything of the instant before count.
+        ReactWires x = CHECK.load("!e;1;?e!e:0", 1);
+        CHECK.instant(x, 0, 0, 1, 0);
+        CHECK.instant(x, 0, 2, 0, 1);
+        CHECK.instant(x, 0, 2, 0, 1);
+        x = CHECK.load("\\s(!s;1;?s!s:0)", 1);
+        CHECK.instant(x, 0, 0, 0, 0);
+        CHECK.instant(x, 0, 2, 0, 0);
+        // The inputs are known: those that are not there are 0.
+        for (int inputs = 0; inputs < 16; inputs++) {
+            CHECK.instant(CHECK.load("?a!e:0;?b!f:0;?c!g:0;?d!h:0", 0), inputs, 1, inputs, 0);
+        }
     }
 
     private static void withoutGuessing() {

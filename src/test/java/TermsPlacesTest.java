@@ -10,6 +10,7 @@ public final class TermsPlacesTest {
         exitsLieInTraps();
         trapEndsWithItsBrace();
         exitsLeaveTheRightTrap();
+        placesOfAnEarlierLine();
         CHECK.end();
     }
 
@@ -86,6 +87,20 @@ public final class TermsPlacesTest {
         CHECK.loads(-2, "{0};^2", "^2;{0}", "{0}|^2", "^2|{0}", "?a{0}:^2", "?a^2:{0}", "({0});^2", "{^2};^2");
         CHECK.loads(-2, "{{0};^3}", "{^3;{0}}", "{{^2}|^3}", "{{{0}};^3}", "{{{^2}};{^4}}");
         CHECK.loads(0, "{{0};^2}", "{^2;{0}}", "{{^2}|^2}", "{{^3}|^2}", "{{{^2}};{^3}}");
+    }
+
+    /** A TRAP or a LOCAL of an earlier line, taken or refused, is none of this one. */
+    private static void placesOfAnEarlierLine() {
+        CHECK.sentence("Every local signal lies in a LOCAL of its name, every EXIT k in at least k - 1 TRAPs");
+        for (String before : new String[] {"{{{{^2}}}}", "\\s\\t!s", "{\\s(!s;^2)}", "{{\\s^4}}", "{\\s\\t!u}"}) {
+            for (String text : new String[] {"^2", "!s", "&s0", "?s0:0", "^2;0", "!s|0", "^3"}) {
+                ReactWires x = new ReactWires();
+                CHECK.type(x, before);
+                x.load();
+                x.wipe();
+                CHECK.load(x, text, -2);
+            }
+        }
     }
 
     private static void exitsLeaveTheRightTrap() {
