@@ -22,6 +22,7 @@ public final class Promise04LoadTest {
     }
 
     private static void taken() {
+        CHECK.sentence("The line becomes the program: the number of its registers");
         due(0, "0", "!e", "!h", "(0)", "{0}", "{^2}", "{{{{^5}}}}", "?a0:0", "?h!e:!f", "\\z!z", "&d0", "\\s?s0:0");
         due(1, "1", "(1)", "1;0", "0|1", "&e1", "{1;^2}", "?a1:0", "\\s&s1");
         due(2, "1|1", "*1", "1;1", "*(1;!e)", "?b1:1");
@@ -30,6 +31,7 @@ public final class Promise04LoadTest {
     }
 
     private static void noSeq() {
+        CHECK.sentence("-1 it is no SEQ");
         due(-1, "", ";", "1;", ";1", "1;;1", "1|", "|1", "1|;1", "11", "(1", "1)", "()", "{}", "{1", "1}", "(1}", "{1)");
         due(-1, "2", "!", "!a", "!d", "!i", "!r", "!1", "!E", "^", "^1", "^6", "^0", "^a");
         due(-1, "?", "?a", "?a1", "?a1:", "?i1:1", "?1:1", "?a1;1", "?a1:1:1", "?a1;1:1", ":");
@@ -37,6 +39,7 @@ public final class Promise04LoadTest {
     }
 
     private static void depth() {
+        CHECK.sentence("-1 more than 12 UNITs lie inside one another");
         due(1, "(".repeat(11) + "1" + ")".repeat(11), "{".repeat(11) + "1" + "}".repeat(11));
         due(1, "(".repeat(11) + "1;0|0" + ")".repeat(11), "&a".repeat(11) + "1", "\\s".repeat(11) + "1");
         due(-1, "(".repeat(12) + "1" + ")".repeat(12), "{".repeat(12) + "1" + "}".repeat(12));
@@ -49,12 +52,14 @@ public final class Promise04LoadTest {
     }
 
     private static void liesWrong() {
+        CHECK.sentence("-2 a local signal or an EXIT does not lie as it must");
         due(-2, "!s", "?s0:0", "&s1", "\\s!t", "(\\s0);!s", "\\s!s;!s", "?a(\\s0):!s", "\\t\\u?s1:1");
         due(-2, "^2", "{^3}", "{{^4}}", "{{{^5}}}", "{0};^2", "{^2|{^4}}", "*^2");
         due(0, "\\s\\t(!s;!t)", "\\s(0;\\t!s)", "{{^2|^3}}", "\\s\\s!s");
     }
 
     private static void safety() {
+        CHECK.sentence("-3 a LOOP is not SAFE");
         due(-3, "*0", "*!e", "*(0|0;0)", "*?a1:0", "*{1|^2}", "*{^2}", "*{0|^2}");
         due(-3, "*(?a1:0;0)", "*\\s!s", "*&a0", "1;*0", "*(1;*0)", "*(*0;1)", "{*{{^2}|0}}", "*{{^2}}", "{*{^2|^2}}");
         due(-3, "{*?a^2:0}", "*{0|{^2}}", "*{*^2}", "*{*(!e;^2)}", "*{{^2|^2};?a^2:1}");
@@ -68,6 +73,7 @@ public final class Promise04LoadTest {
     }
 
     private static void size() {
+        CHECK.sentence("-4 more than 120 things would be laid out (UNITs but for ( ), and one more for each ; and each |)");
         String of29 = "1" + ";0".repeat(14);
         ReactWires x = CHECK.load("**(" + of29 + ")", 4);
         CHECK.same("look(1)", x.look(1), 119);
@@ -129,6 +135,7 @@ public final class Promise04LoadTest {
     }
 
     private static void refusedChangesNothing() {
+        CHECK.sentence("A call that is refused changes nothing");
         ReactWires x = CHECK.load("!e;1;!f;1", 2);
         CHECK.instant(x, 0, 0, 1, 0);
         CHECK.same("states()", x.states(), 3);
@@ -153,6 +160,7 @@ public final class Promise04LoadTest {
     }
 
     private static void takenStartsAnew() {
+        CHECK.sentence("The line becomes the program, at its beginning");
         ReactWires x = CHECK.load("!e;1;!f", 1);
         CHECK.instant(x, 0, 0, 1, 0);
         CHECK.same("states()", x.states(), 2);

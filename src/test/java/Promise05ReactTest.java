@@ -83,6 +83,7 @@ public final class Promise05ReactTest {
     }
 
     private static void suspends() {
+        CHECK.sentence("& and a signal and a UNIT: SUSPEND");
         // The first instant of it is never held back.
         run("&a(!e;1;!f)", 1, row(1, 0, E), row(1, 0, 0), row(1, 0, 0), row(0, 1, F));
         run("&a(1;!e;1;!f)", 2, row(0, 0, 0), row(0, 0, E), row(1, 0, 0), row(3, 0, 0), row(2, 1, F));
@@ -95,6 +96,7 @@ public final class Promise05ReactTest {
     }
 
     private static void loops() {
+        CHECK.sentence("* and a UNIT: LOOP");
         run("*(!e;1)", 2, row(0, 0, E), row(0, 0, E), row(0, 0, E));
         run("*(1;!e)", 2, row(0, 0, 0), row(0, 0, E), row(0, 0, E));
         run("*(!e;1;!f;1)", 4, row(0, 0, E), row(0, 0, F), row(0, 0, E), row(0, 0, F));
@@ -104,6 +106,7 @@ public final class Promise05ReactTest {
     }
 
     private static void pars() {
+        CHECK.sentence("PAR: both GO are GO");
         run("!e|!f|!g|!h", 0, row(0, 1, 15));
         run("((1;1;!e)|1|0);!f", 3, row(0, 0, 0), row(0, 0, 0), row(0, 1, E | F));
         run("(1|(1;1;!e));!f", 3, row(0, 0, 0), row(0, 0, 0), row(0, 1, E | F));
@@ -118,6 +121,7 @@ public final class Promise05ReactTest {
     }
 
     private static void traps() {
+        CHECK.sentence("{ SEQ }: TRAP");
         run("{!e;^2;!f};!g", 0, row(0, 1, E | G));
         run("{0};!g", 0, row(0, 1, G));
         run("{(1;^2;!e)|*(!f;1)};!g", 3, row(0, 0, F), row(0, 1, F | G));
@@ -135,6 +139,7 @@ public final class Promise05ReactTest {
     }
 
     private static void locals() {
+        CHECK.sentence("\\ and a local signal and a UNIT: LOCAL");
         run("\\s(!s|?s!e:!f)", 0, row(0, 1, E));
         run("\\s(?s!e:!f|0)", 0, row(0, 1, F));
         run("\\s(!s;1;?s!e:!f)", 1, row(0, 0, 0), row(0, 1, F));
@@ -149,6 +154,7 @@ public final class Promise05ReactTest {
     }
 
     private static void undecided() {
+        CHECK.sentence("2 UNDECIDED");
         ReactWires x = CHECK.load("?a(?e!e:0):(!f;1;!g)", 1);
         for (int i = 0; i < 3; i++) {
             CHECK.instant(x, 1, 2, 0, E);

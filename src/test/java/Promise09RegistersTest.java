@@ -17,6 +17,7 @@ public final class Promise09RegistersTest {
     }
 
     private static void order() {
+        CHECK.sentence("The registers that are 1, by the order of their laying out");
         ReactWires x = CHECK.load("?a1:1;(1|1)", 4);
         due(x, 0, 0);
         x.react(0);
@@ -43,6 +44,7 @@ public final class Promise09RegistersTest {
     }
 
     private static void parts() {
+        CHECK.sentence("of registers 32 * part to 32 * part + 31 the lowest bit first");
         ReactWires x = CHECK.load("*(1" + ";1".repeat(16) + ")", 34);
         for (int i = 0; i < 34; i++) {
             CHECK.same("react(0)", x.react(0), 0);
@@ -118,6 +120,7 @@ public final class Promise09RegistersTest {
     }
 
     private static void ends() {
+        CHECK.sentence("The registers that are 1");
         ReactWires x = CHECK.load("{1|1|(1;^2)};0", 3);
         x.react(0);
         due(x, 0, 7);

@@ -3,6 +3,7 @@ public final class Promise12FoundTest {
     private static final Check CHECK = new Check();
 
     public static void main(String[] args) {
+        CHECK.sentence("pairs that are UNDECIDED (what = 0), that end the program (1), the outputs that some decided pair gives (2)");
         tallies("0", 1, 0, 16, 0);
         tallies("!e;1;!f;1;!g", 3, 0, 16, 7);
         tallies("?e!f:!e", 1, 16, 0, 0);
@@ -111,6 +112,7 @@ public final class Promise12FoundTest {
     }
 
     private static void refused() {
+        CHECK.sentence("Of the latest states() of this program that answered more than 0");
         ReactWires x = CHECK.load("!e", 0);
         CHECK.same("states()", x.states(), 1);
         CHECK.load(x, "!e;1" + ";1".repeat(28), 29);
